@@ -1,0 +1,1260 @@
+/** Functions of three yes-no variables, and all that can be made of some of them. */
+public final class YesNoClones {
+    public static final int NONE = -1, UNKNOWN = -1000000001, OUTSIDE = -1000000002, NOT = -1000000003, FULL = -1000000004;
+
+    private static final int CODES = 256;
+    private static final int IMAGES = 2;
+
+    private final Formula formula = new Formula();
+    private final Places places = new Places();
+    private final Costs costs = new Costs();
+    private final Book book = new Book();
+    private final Shelf shelf = new Shelf();
+    private final History history = new History();
+    private final Slots images = new Slots(IMAGES);
+    private final int[] imageSeeds = new int[IMAGES];
+    private final boolean[] imageKept = new boolean[IMAGES];
+    private int seedNow = 0;
+    private int faultPlace = NONE;
+
+    public YesNoClones() {
+    }
+
+    // ---- functions
+
+    public int feed(int letter) {
+        if (letter < 0 || letter > 255) {
+            return OUTSIDE;
+        }
+        return formula.type(letter) ? formula.size() : FULL;
+    }
+
+    public int tell() {
+        if (shelf.isFull()) {
+            return FULL;
+        }
+        int fault = formula.firstFault(shelf.size());
+        int code = fault == 0 ? formula.value(shelf) : 0;
+        faultPlace = fault == 0 ? NONE : formula.reached();
+        formula.clear();
+        if (fault != 0) {
+            return -10 - fault;
+        }
+        history.push(shelf);
+        return shelf.add(code);
+    }
+
+    public int fault() {
+        return faultPlace;
+    }
+
+    public int told(int what) {
+        switch (what) {
+            case 0: return shelf.size();
+            case 1: return formula.size();
+            case 2: return shelf.chosenSet();
+            case 3: return common();
+            case 4: return places.numberOf(common());
+            case 5: return reckoned().madeCount();
+            case 6: return reckoned().greatestCost();
+            case 7: return reckoned().leastCodeCosting(reckoned().greatestCost());
+            case 8: return spare();
+            case 9: return places.count();
+            case 10: return book.size();
+            case 11: return book.firstWrong(reckoned());
+            case 12: return history.size();
+            default: return OUTSIDE;
+        }
+    }
+
+    public int function(int f, int what) {
+        if (!shelf.holds(f)) {
+            return UNKNOWN;
+        }
+        int code = shelf.codeAt(f);
+        switch (what) {
+            case 0: return code;
+            case 1: return Codes.variablesOf(code);
+            case 2: return Codes.arityOf(code);
+            case 3: return Codes.sumOf(code);
+            case 4: return places.traitsOf(code);
+            case 5: return Codes.turnedOver(code);
+            case 6: return reckoned().costOf(code);
+            default: return OUTSIDE;
+        }
+    }
+
+    public int fails(int f, int trait) {
+        if (!shelf.holds(f) || trait < 0 || trait >= Traits.COUNT) {
+            return UNKNOWN;
+        }
+        return Traits.firstFail(shelf.codeAt(f), trait);
+    }
+
+    public int cost(int code, int what) {
+        if (!isCode(code)) {
+            return OUTSIDE;
+        }
+        switch (what) {
+            case 0: return reckoned().costOf(code);
+            case 1: return reckoned().topOf(code);
+            case 2: return reckoned().partOf(code, 0);
+            case 3: return reckoned().partOf(code, 1);
+            case 4: return reckoned().partOf(code, 2);
+            case 5: return reckoned().lengthOf(code);
+            default: return OUTSIDE;
+        }
+    }
+
+    public int spell(int code, int k) {
+        if (!isCode(code) || k < 0) {
+            return OUTSIDE;
+        }
+        return reckoned().letterOf(code, k);
+    }
+
+    public int costing(int n) {
+        return n < 0 ? OUTSIDE : reckoned().countCosting(n);
+    }
+
+    // ---- places
+
+    public int place(int k, int what) {
+        if (!places.holds(k)) {
+            return UNKNOWN;
+        }
+        switch (what) {
+            case 0: return places.setOf(k);
+            case 1: return places.countIn(places.setOf(k));
+            case 2: return places.countNext(k, true);
+            case 3: return places.countNext(k, false);
+            case 4: return places.rankOf(k);
+            default: return OUTSIDE;
+        }
+    }
+
+    public int above(int k, int i) {
+        return nextPlace(k, i, true);
+    }
+
+    public int below(int k, int i) {
+        return nextPlace(k, i, false);
+    }
+
+    public int meet(int k, int l) {
+        if (!places.holds(k) || !places.holds(l)) {
+            return UNKNOWN;
+        }
+        return places.numberOf(places.closureOf(places.setOf(k) | places.setOf(l)));
+    }
+
+    public int join(int k, int l) {
+        if (!places.holds(k) || !places.holds(l)) {
+            return UNKNOWN;
+        }
+        return places.numberOf(places.setOf(k) & places.setOf(l));
+    }
+
+    public int relation(int k, int rows, int what) {
+        if (!Relations.isRelation(k, rows) || what < 0 || what > 1) {
+            return OUTSIDE;
+        }
+        int keepers = 0;
+        int shared = Traits.ALL;
+        for (int code = 0; code < CODES; code++) {
+            if (Relations.isKeptBy(code, k, rows)) {
+                keepers++;
+                shared &= places.traitsOf(code);
+            }
+        }
+        return what == 0 ? keepers : places.numberOf(shared);
+    }
+
+    public int keeps(int f, int k, int rows) {
+        if (!shelf.holds(f)) {
+            return UNKNOWN;
+        }
+        if (!Relations.isRelation(k, rows)) {
+            return OUTSIDE;
+        }
+        return Relations.isKeptBy(shelf.codeAt(f), k, rows) ? 1 : 0;
+    }
+
+    // ---- deeds
+
+    public int put(int f, int x, int y, int z) {
+        if (!shelf.holds(f) || !shelf.holds(x) || !shelf.holds(y) || !shelf.holds(z)) {
+            return UNKNOWN;
+        }
+        if (shelf.isFull()) {
+            return FULL;
+        }
+        history.push(shelf);
+        return shelf.add(Codes.putOn(shelf.codeAt(f), shelf.codeAt(x), shelf.codeAt(y), shelf.codeAt(z)));
+    }
+
+    public int turn(int f) {
+        if (!shelf.holds(f)) {
+            return UNKNOWN;
+        }
+        history.push(shelf);
+        int code = Codes.turnedOver(shelf.codeAt(f));
+        shelf.change(f, code);
+        return code;
+    }
+
+    public int take(int f) {
+        if (!shelf.holds(f)) {
+            return UNKNOWN;
+        }
+        history.push(shelf);
+        shelf.remove(f);
+        return shelf.size();
+    }
+
+    public int base(int set) {
+        if (set >> shelf.size() != 0) {
+            return UNKNOWN;
+        }
+        history.push(shelf);
+        shelf.choose(set);
+        return common();
+    }
+
+    public int drift(int n) {
+        if (n < 1 || n > Shelf.ROOM) {
+            return OUTSIDE;
+        }
+        for (int i = 0; i < n && !shelf.isFull(); i++) {
+            history.push(shelf);
+            shelf.add(draw(CODES));
+        }
+        return shelf.size();
+    }
+
+    public int undo(int n) {
+        if (n < 1 || n > History.ROOM) {
+            return OUTSIDE;
+        }
+        return history.goBackBy(n, shelf) ? shelf.size() : NOT;
+    }
+
+    // ---- the book
+
+    public int write(int code, int v) {
+        if (!isCode(code)) {
+            return OUTSIDE;
+        }
+        return book.add(code, v) ? book.size() : FULL;
+    }
+
+    public int tear() {
+        int had = book.size();
+        book.clear();
+        return had;
+    }
+
+    // ---- images
+
+    public int seed(int v) {
+        if (v < 0) {
+            return OUTSIDE;
+        }
+        int was = seedNow;
+        seedNow = v;
+        return was;
+    }
+
+    public int keep(int i) {
+        if (i < 0 || i >= IMAGES) {
+            return UNKNOWN;
+        }
+        images.save(i, shelf);
+        imageSeeds[i] = seedNow;
+        imageKept[i] = true;
+        history.clear();
+        return 1;
+    }
+
+    public int goBack(int i) {
+        if (i < 0 || i >= IMAGES) {
+            return UNKNOWN;
+        }
+        if (!imageKept[i]) {
+            return NOT;
+        }
+        images.load(i, shelf);
+        seedNow = imageSeeds[i];
+        history.clear();
+        return 1;
+    }
+
+    // ---- what several calls need
+
+    private static boolean isCode(int code) {
+        return code >= 0 && code < CODES;
+    }
+
+    private int nextPlace(int k, int i, boolean up) {
+        if (!places.holds(k)) {
+            return UNKNOWN;
+        }
+        return i < 0 ? OUTSIDE : places.next(k, i, up);
+    }
+
+    private int common() {
+        return commonOf(shelf.chosenSet());
+    }
+
+    private int commonOf(int set) {
+        int shared = Traits.ALL;
+        for (int f = 0; f < shelf.size(); f++) {
+            if ((set >> f & 1) != 0) {
+                shared &= places.traitsOf(shelf.codeAt(f));
+            }
+        }
+        return shared;
+    }
+
+    private int spare() {
+        int set = shelf.chosenSet();
+        int all = common();
+        int spared = 0;
+        for (int f = 0; f < shelf.size(); f++) {
+            if ((set >> f & 1) != 0 && commonOf(set & ~(1 << f)) == all) {
+                spared |= 1 << f;
+            }
+        }
+        return spared;
+    }
+
+    /** The costs of the base as it is now. */
+    private Costs reckoned() {
+        if (!costs.areOf(shelf)) {
+            costs.reckon(shelf, places.countIn(common()));
+        }
+        return costs;
+    }
+
+    private int draw(int n) {
+        seedNow = (int) (seedNow * 1103515245L + 12345L & 0x7fffffffL);
+        return n < 1 ? 0 : seedNow / 65536 % n;
+    }
+
+    /** A function as its code: bit p is what it tells at point p. */
+    private static final class Codes {
+        static final int A = 240, B = 204, C = 170;
+
+        static int tells(int code, int point) {
+            return code >> (point & 7) & 1;
+        }
+
+        static boolean isWithin(int p, int q) {
+            return (p & ~q) == 0;
+        }
+
+        /** The bit of points that is variable v: a is the highest. */
+        static int bitOf(int v) {
+            return 4 >> v;
+        }
+
+        static int putOn(int f, int x, int y, int z) {
+            return putOnBits(f, x, y, z, 8);
+        }
+
+        /** Rows of a relation are put on like codes, but have fewer bits. */
+        static int putOnBits(int f, int x, int y, int z, int bits) {
+            int result = 0;
+            for (int p = 0; p < bits; p++) {
+                int point = (x >> p & 1) << 2 | (y >> p & 1) << 1 | z >> p & 1;
+                result |= tells(f, point) << p;
+            }
+            return result;
+        }
+
+        static int turnedOver(int code) {
+            int result = 0;
+            for (int p = 0; p < 8; p++) {
+                result |= (1 - tells(code, 7 - p)) << p;
+            }
+            return result;
+        }
+
+        static boolean hangsOn(int code, int v) {
+            for (int p = 0; p < 8; p++) {
+                if (tells(code, p) != tells(code, p ^ bitOf(v))) {
+                    return true;
+                }
+            }
+            return false;
+        }
+
+        static int variablesOf(int code) {
+            int set = 0;
+            for (int v = 0; v < 3; v++) {
+                if (hangsOn(code, v)) {
+                    set |= 1 << v;
+                }
+            }
+            return set;
+        }
+
+        static int arityOf(int code) {
+            for (int v = 2; v >= 0; v--) {
+                if (hangsOn(code, v)) {
+                    return v + 1;
+                }
+            }
+            return 0;
+        }
+
+        /** Point q is in it just if an odd number of the points within q tell 1. */
+        static int sumOf(int code) {
+            int set = 0;
+            for (int q = 0; q < 8; q++) {
+                int odd = 0;
+                for (int p = 0; p <= q; p++) {
+                    if (isWithin(p, q)) {
+                        odd ^= tells(code, p);
+                    }
+                }
+                set |= odd << q;
+            }
+            return set;
+        }
+    }
+
+    /** The twelve traits, and where a code fails them first. */
+    private static final class Traits {
+        static final int COUNT = 12, ALL = 4095;
+        private static final int SINGLES = 1 | 1 << 1 | 1 << 2 | 1 << 4;
+
+        static int of(int code) {
+            int set = 0;
+            for (int trait = 0; trait < COUNT; trait++) {
+                if (firstFail(code, trait) == NONE) {
+                    set |= 1 << trait;
+                }
+            }
+            return set;
+        }
+
+        static int firstFail(int code, int trait) {
+            switch (trait) {
+                case 0: return Codes.tells(code, 0) == 0 ? NONE : 0;
+                case 1: return Codes.tells(code, 7) == 1 ? NONE : 7;
+                case 2: return firstFall(code);
+                case 3: return firstLikeness(code);
+                case 4: return firstProduct(code);
+                case 5: return firstUnlikeBoth(code);
+                case 6: return firstUnlikeEither(code);
+                case 7: return firstTwoVariables(code);
+                case 8: return firstStrangers(code, 1, true);
+                case 9: return firstStrangers(code, 1, false);
+                case 10: return firstStrangers(code, 0, true);
+                case 11: return firstStrangers(code, 0, false);
+                default: return NONE;
+            }
+        }
+
+        private static int firstFall(int code) {
+            for (int p = 0; p < 8; p++) {
+                for (int q = p; q < 8 && Codes.tells(code, p) == 1; q++) {
+                    if (Codes.isWithin(p, q) && Codes.tells(code, q) == 0) {
+                        return 8 * p + q;
+                    }
+                }
+            }
+            return NONE;
+        }
+
+        private static int firstLikeness(int code) {
+            for (int p = 0; p < 8; p++) {
+                if (Codes.tells(code, p) == Codes.tells(code, 7 - p)) {
+                    return p;
+                }
+            }
+            return NONE;
+        }
+
+        private static int firstProduct(int code) {
+            int others = Codes.sumOf(code) & ~SINGLES;
+            for (int p = 0; p < 8; p++) {
+                if ((others >> p & 1) != 0) {
+                    return p;
+                }
+            }
+            return NONE;
+        }
+
+        private static int firstUnlikeBoth(int code) {
+            for (int p = 0; p < 8; p++) {
+                for (int q = 0; q < 8; q++) {
+                    if (Codes.tells(code, p & q) != (Codes.tells(code, p) & Codes.tells(code, q))) {
+                        return 8 * p + q;
+                    }
+                }
+            }
+            return NONE;
+        }
+
+        private static int firstUnlikeEither(int code) {
+            for (int p = 0; p < 8; p++) {
+                for (int q = 0; q < 8; q++) {
+                    if (Codes.tells(code, p | q) != (Codes.tells(code, p) | Codes.tells(code, q))) {
+                        return 8 * p + q;
+                    }
+                }
+            }
+            return NONE;
+        }
+
+        private static int firstTwoVariables(int code) {
+            int first = NONE;
+            for (int v = 0; v < 3; v++) {
+                if (Codes.hangsOn(code, v)) {
+                    if (first != NONE) {
+                        return 8 * first + v;
+                    }
+                    first = v;
+                }
+            }
+            return NONE;
+        }
+
+        /** The first points that tell 'value' and have (for 1) or lack (for 0) no bit in common: two, or three of them. */
+        private static int firstStrangers(int code, int value, boolean two) {
+            for (int p = 0; p < 8; p++) {
+                for (int q = p; q < 8 && Codes.tells(code, p) == value; q++) {
+                    if (Codes.tells(code, q) == value) {
+                        int third = two ? (areStrangers(value, p, q, q) ? 0 : NONE) : firstThird(code, value, p, q);
+                        if (third != NONE) {
+                            return two ? 8 * p + q : 64 * p + 8 * q + third;
+                        }
+                    }
+                }
+            }
+            return NONE;
+        }
+
+        private static int firstThird(int code, int value, int p, int q) {
+            for (int r = q; r < 8; r++) {
+                if (Codes.tells(code, r) == value && areStrangers(value, p, q, r)) {
+                    return r;
+                }
+            }
+            return NONE;
+        }
+
+        private static boolean areStrangers(int value, int p, int q, int r) {
+            return value == 1 ? (p & q & r) == 0 : (p | q | r) == 7;
+        }
+    }
+
+    /** All sets of traits that are just what some functions have in common. */
+    private static final class Places {
+        private static final int SETS = Traits.ALL + 1;
+
+        private final int[] traits = new int[CODES];
+        private final int[] sets = new int[SETS];
+        private final int[] numbers = new int[SETS];
+        private final int[] ranks = new int[SETS];
+        private int count = 0;
+
+        Places() {
+            for (int code = 0; code < CODES; code++) {
+                traits[code] = Traits.of(code);
+            }
+            findSets();
+            numberSets();
+        }
+
+        /** One function more at each step, so that each set is come to by as few as can be. */
+        private void findSets() {
+            for (int set = 0; set < SETS; set++) {
+                ranks[set] = NONE;
+            }
+            ranks[Traits.ALL] = 0;
+            sets[0] = Traits.ALL;
+            int found = 1;
+            for (int i = 0; i < found && found < SETS; i++) {
+                for (int code = 0; code < CODES; code++) {
+                    int set = sets[i] & traits[code];
+                    if (ranks[set] == NONE && found < SETS) {
+                        ranks[set] = ranks[sets[i]] + 1;
+                        sets[found] = set;
+                        found++;
+                    }
+                }
+            }
+        }
+
+        private void numberSets() {
+            for (int set = 0; set < SETS; set++) {
+                numbers[set] = NONE;
+                if (ranks[set] != NONE) {
+                    numbers[set] = count;
+                    sets[count] = set;
+                    count++;
+                }
+            }
+        }
+
+        int count() {
+            return count;
+        }
+
+        boolean holds(int k) {
+            return k >= 0 && k < count;
+        }
+
+        int traitsOf(int code) {
+            return traits[code & CODES - 1];
+        }
+
+        int setOf(int k) {
+            return holds(k) ? sets[k] : Traits.ALL;
+        }
+
+        int numberOf(int set) {
+            return numbers[set & Traits.ALL];
+        }
+
+        int rankOf(int k) {
+            return ranks[setOf(k) & Traits.ALL];
+        }
+
+        int countIn(int set) {
+            int n = 0;
+            for (int code = 0; code < CODES; code++) {
+                if ((traits[code] & set) == set) {
+                    n++;
+                }
+            }
+            return n;
+        }
+
+        /** The traits that all functions with these have: what the places that have these share. */
+        int closureOf(int set) {
+            int shared = Traits.ALL;
+            for (int k = 0; k < count; k++) {
+                if ((sets[k] & set) == set) {
+                    shared &= sets[k];
+                }
+            }
+            return shared;
+        }
+
+        int countNext(int k, boolean up) {
+            int n = 0;
+            for (int l = 0; l < count; l++) {
+                if (isNext(k, l, up)) {
+                    n++;
+                }
+            }
+            return n;
+        }
+
+        /** The i-th place just above (or just below) place k. */
+        int next(int k, int i, boolean up) {
+            int passed = 0;
+            for (int l = 0; l < count; l++) {
+                if (isNext(k, l, up)) {
+                    if (passed == i) {
+                        return l;
+                    }
+                    passed++;
+                }
+            }
+            return NONE;
+        }
+
+        private boolean isNext(int k, int l, boolean up) {
+            return up ? isJustAbove(l, k) : isJustAbove(k, l);
+        }
+
+        private boolean isJustAbove(int high, int low) {
+            if (!isAbove(high, low)) {
+                return false;
+            }
+            for (int k = 0; k < count; k++) {
+                if (isAbove(high, k) && isAbove(k, low)) {
+                    return false;
+                }
+            }
+            return true;
+        }
+
+        private boolean isAbove(int high, int low) {
+            return setOf(high) != setOf(low) && (setOf(high) & ~setOf(low)) == 0;
+        }
+    }
+
+    /** Relations: sets of rows of one to three bits. */
+    private static final class Relations {
+        static boolean isRelation(int k, int rows) {
+            return k >= 1 && k <= 3 && rows >> (1 << k) == 0;
+        }
+
+        static boolean isKeptBy(int code, int k, int rows) {
+            int all = 1 << k;
+            // of all rows nothing can lead out; it would be the longest search
+            if (rows == (1 << all) - 1) {
+                return true;
+            }
+            for (int x = 0; x < all; x++) {
+                for (int y = 0; y < all && has(rows, x); y++) {
+                    for (int z = 0; z < all && has(rows, y); z++) {
+                        if (has(rows, z) && !has(rows, Codes.putOnBits(code, x, y, z, k))) {
+                            return false;
+                        }
+                    }
+                }
+            }
+            return true;
+        }
+
+        private static boolean has(int rows, int row) {
+            return (rows >> row & 1) != 0;
+        }
+    }
+
+    /** The text, and what it says as a formula: each sign ahead of what it binds. */
+    private static final class Formula {
+        static final int ROOM = 60;
+        private static final int STRANGE = 1, MISSING = 2, BEHIND = 3, SHORT = 4;
+
+        private final int[] text = new int[ROOM];
+        private final int[] stack = new int[ROOM];
+        private int size = 0;
+        private int depth = 0;
+        private int reached = 0;
+
+        int size() {
+            return size;
+        }
+
+        void clear() {
+            size = 0;
+        }
+
+        boolean type(int letter) {
+            if (size >= ROOM) {
+                return false;
+            }
+            text[size] = letter;
+            size++;
+            return true;
+        }
+
+        /** The place that the latest look for a fault came to. */
+        int reached() {
+            return reached;
+        }
+
+        /** The number of the first fault from the left, 0 if there is none. */
+        int firstFault(int functions) {
+            int open = 1;
+            for (reached = 0; reached < size && reached < ROOM; reached++) {
+                int letter = text[reached];
+                if (open == 0) {
+                    return BEHIND;
+                }
+                if (bound(letter) == NONE) {
+                    return STRANGE;
+                }
+                if (isFunction(letter) && letter - 'A' >= functions) {
+                    return MISSING;
+                }
+                open += bound(letter) - 1;
+            }
+            return open > 0 ? SHORT : 0;
+        }
+
+        /** The code of a text without a fault: from the right, so that what a letter binds is there ahead of it. */
+        int value(Shelf shelf) {
+            depth = 0;
+            for (int i = Math.min(size, ROOM) - 1; i >= 0; i--) {
+                int letter = text[i];
+                int bound = bound(letter);
+                int code = isFunction(letter) ? shelf.codeAt(letter - 'A') : codeOf(letter);
+                int x = bound > 0 ? pop() : 0;
+                int y = bound > 1 ? pop() : 0;
+                int z = bound > 2 ? pop() : 0;
+                push(bound > 0 ? Codes.putOn(code, x, y, z) : code);
+            }
+            return pop();
+        }
+
+        private void push(int code) {
+            if (depth < ROOM) {
+                stack[depth] = code;
+                depth++;
+            }
+        }
+
+        private int pop() {
+            if (depth < 1 || depth > ROOM) {
+                return 0;
+            }
+            depth--;
+            return stack[depth];
+        }
+
+        private static boolean isFunction(int letter) {
+            return letter >= 'A' && letter <= 'F';
+        }
+
+        /** How many formulas stand behind a letter; NONE: it is no letter of formulas. */
+        private static int bound(int letter) {
+            if (isFunction(letter)) {
+                return 3;
+            }
+            switch (letter) {
+                case '0': case '1': case 'a': case 'b': case 'c': return 0;
+                case '!': return 1;
+                case '&': case '|': case '^': case '=': case '>': return 2;
+                case '?': case 'm': return 3;
+                default: return NONE;
+            }
+        }
+
+        /** The code of a letter, with a, b, c for the formulas behind it. */
+        private static int codeOf(int letter) {
+            switch (letter) {
+                case '1': return CODES - 1;
+                case 'a': return Codes.A;
+                case 'b': return Codes.B;
+                case 'c': return Codes.C;
+                case '!': return ~Codes.A & 255;
+                case '&': return Codes.A & Codes.B;
+                case '|': return Codes.A | Codes.B;
+                case '^': return Codes.A ^ Codes.B;
+                case '=': return ~(Codes.A ^ Codes.B) & 255;
+                case '>': return (~Codes.A | Codes.B) & 255;
+                case '?': return Codes.A & Codes.B | ~Codes.A & Codes.C;
+                case 'm': return Codes.A & Codes.B | Codes.A & Codes.C | Codes.B & Codes.C;
+                default: return 0;
+            }
+        }
+    }
+
+    /** The shelf and the base: codes, and which of them are chosen. */
+    private static final class Shelf {
+        static final int ROOM = 6;
+
+        private final int[] codes = new int[ROOM];
+        private int size = 0;
+        private int chosen = 0;
+
+        int size() {
+            return size;
+        }
+
+        boolean isFull() {
+            return size >= ROOM;
+        }
+
+        boolean holds(int f) {
+            return f >= 0 && f < size && f < ROOM;
+        }
+
+        int codeAt(int f) {
+            return holds(f) ? codes[f] : 0;
+        }
+
+        int chosenSet() {
+            return chosen;
+        }
+
+        boolean isChosen(int f) {
+            return holds(f) && (chosen >> f & 1) != 0;
+        }
+
+        int add(int code) {
+            if (isFull()) {
+                return NONE;
+            }
+            codes[size] = code;
+            size++;
+            return size - 1;
+        }
+
+        void change(int f, int code) {
+            if (holds(f)) {
+                codes[f] = code;
+            }
+        }
+
+        void remove(int f) {
+            if (!holds(f)) {
+                return;
+            }
+            for (int g = f; g + 1 < size && g + 1 < ROOM; g++) {
+                codes[g] = codes[g + 1];
+            }
+            size--;
+            int ahead = (1 << f) - 1;
+            chosen = chosen & ahead | chosen >> 1 & ~ahead;
+        }
+
+        void choose(int set) {
+            chosen = set;
+        }
+
+        void restart(int set) {
+            size = 0;
+            chosen = set;
+        }
+    }
+
+    /** Shelves and bases as they were. */
+    private static final class Slots {
+        private final int[] sizes;
+        private final int[] sets;
+        private final int[] codes;
+
+        Slots(int room) {
+            int slots = Math.max(room, 0);
+            sizes = new int[slots];
+            sets = new int[slots];
+            codes = new int[slots * Shelf.ROOM];
+        }
+
+        void save(int slot, Shelf shelf) {
+            if (slot < 0 || slot >= sizes.length) {
+                return;
+            }
+            sizes[slot] = shelf.size();
+            sets[slot] = shelf.chosenSet();
+            for (int f = 0; f < Shelf.ROOM; f++) {
+                codes[slot * Shelf.ROOM + f] = shelf.codeAt(f);
+            }
+        }
+
+        void load(int slot, Shelf shelf) {
+            if (slot < 0 || slot >= sizes.length) {
+                return;
+            }
+            shelf.restart(sets[slot]);
+            for (int f = 0; f < sizes[slot] && f < Shelf.ROOM; f++) {
+                shelf.add(codes[slot * Shelf.ROOM + f]);
+            }
+        }
+    }
+
+    /** What was ahead of each of the latest deeds, in a ring. */
+    private static final class History {
+        static final int ROOM = 16;
+
+        private final Slots slots = new Slots(ROOM);
+        private int size = 0;
+        private int next = 0;
+
+        int size() {
+            return size;
+        }
+
+        void clear() {
+            size = 0;
+        }
+
+        void push(Shelf shelf) {
+            slots.save(next, shelf);
+            next = (next + 1) % ROOM;
+            size = Math.min(size + 1, ROOM);
+        }
+
+        boolean goBackBy(int n, Shelf shelf) {
+            if (n < 1 || n > size) {
+                return false;
+            }
+            size -= n;
+            next = (next + ROOM - n) % ROOM;
+            slots.load(next, shelf);
+            return true;
+        }
+    }
+
+    /** Entries that tell the cost of a code. */
+    private static final class Book {
+        static final int ROOM = 20;
+
+        private final int[] codes = new int[ROOM];
+        private final int[] values = new int[ROOM];
+        private int size = 0;
+
+        int size() {
+            return size;
+        }
+
+        void clear() {
+            size = 0;
+        }
+
+        boolean add(int code, int value) {
+            if (size >= ROOM) {
+                return false;
+            }
+            codes[size] = code;
+            values[size] = value;
+            size++;
+            return true;
+        }
+
+        int firstWrong(Costs costs) {
+            for (int i = 0; i < size && i < ROOM; i++) {
+                if (costs.costOf(codes[i]) != values[i]) {
+                    return i;
+                }
+            }
+            return NONE;
+        }
+    }
+
+    /** What the base makes, each code as cheaply as can be: all codes of one cost, then those of the next. */
+    private static final class Costs {
+        private static final int MOST = 9999;
+
+        private final int[] costs = new int[CODES];
+        private final int[] tops = new int[CODES];
+        private final int[] parts = new int[3 * CODES];
+        private final int[] lengths = new int[CODES];
+        /** The codes that are made, rising. */
+        private final int[] rising = new int[CODES];
+        /** The codes that are made, by cost; those of one cost rising. Those that cost n stand from starts[n] on. */
+        private final int[] byCost = new int[CODES];
+        private final int[] starts = new int[MOST + 2];
+        private final int[] baseCodes = new int[Shelf.ROOM];
+        private int baseSet = NONE;
+        private int made = 0;
+        private int listed = 0;
+        private int wanted = 0;
+        private int level = 0;
+        private int greatest = 0;
+        /** The function of the base that is being put on what is made. */
+        private int top = NONE;
+        private int topCode = 0;
+        private int topArity = 0;
+        private int topVariables = 0;
+
+        /** Whether what was reckoned last holds for this shelf. */
+        boolean areOf(Shelf shelf) {
+            if (shelf.chosenSet() != baseSet) {
+                return false;
+            }
+            for (int f = 0; f < Shelf.ROOM; f++) {
+                if (shelf.isChosen(f) && shelf.codeAt(f) != baseCodes[f]) {
+                    return false;
+                }
+            }
+            return true;
+        }
+
+        /**
+         * A base makes just the functions of the place of its common traits (src/test/java/MadeTest.java goes through
+         * all bases), so the search may end when it has as many as are wanted.
+         */
+        void reckon(Shelf shelf, int inPlace) {
+            wanted = inPlace;
+            start(shelf);
+            // a code that costs more than all before it has three parts at most, and they cost the greatest at most
+            for (int n = 1; n <= MOST && n <= 3 * greatest + 1 && made < wanted; n++) {
+                level = n;
+                for (int f = 0; f < Shelf.ROOM; f++) {
+                    if (shelf.isChosen(f)) {
+                        putTop(f, shelf.codeAt(f));
+                    }
+                }
+                settle();
+            }
+        }
+
+        private void start(Shelf shelf) {
+            baseSet = shelf.chosenSet();
+            for (int f = 0; f < Shelf.ROOM; f++) {
+                baseCodes[f] = shelf.codeAt(f);
+            }
+            for (int code = 0; code < CODES; code++) {
+                costs[code] = NONE;
+            }
+            made = 0;
+            listed = 0;
+            level = 0;
+            greatest = 0;
+            top = NONE;
+            topArity = 0;
+            find(Codes.A, NONE, NONE, NONE);
+            find(Codes.B, NONE, NONE, NONE);
+            find(Codes.C, NONE, NONE, NONE);
+            settle();
+        }
+
+        /** From now on what costs as much as this level may be a part. */
+        private void settle() {
+            starts[level] = listed;
+            int rise = 0;
+            for (int code = 0; code < CODES; code++) {
+                if (costs[code] == level && listed < CODES) {
+                    byCost[listed] = code;
+                    listed++;
+                    lengths[code] = 1 + partLength(code, 0) + partLength(code, 1) + partLength(code, 2);
+                    greatest = level;
+                }
+                if (costs[code] != NONE) {
+                    rising[rise] = code;
+                    rise++;
+                }
+            }
+            starts[level + 1] = listed;
+        }
+
+        // A part that has no say costs nothing at the least, and of what costs nothing c has the least code: where the
+        // function does not hang on a variable, c alone is tried. Tops and parts are tried rising, so that of several
+        // ways the one that is due comes first.
+
+        private void putTop(int f, int code) {
+            top = f;
+            topCode = code;
+            topArity = Codes.arityOf(code);
+            topVariables = Codes.variablesOf(code);
+            int tries = topHangsOn(0) ? listed : 1;
+            for (int i = 0; i < tries && i < CODES && made < wanted; i++) {
+                int x = topHangsOn(0) ? rising[i] : Codes.C;
+                if (costs[x] < level) {
+                    putOnFirst(x, level - 1 - costs[x]);
+                }
+            }
+        }
+
+        private void putOnFirst(int x, int left) {
+            int low0 = choose(x, spread(4), spread(0));
+            int high0 = choose(x, spread(5), spread(1));
+            int low1 = choose(x, spread(6), spread(2));
+            int high1 = choose(x, spread(7), spread(3));
+            int tries = topHangsOn(1) ? listed : 1;
+            for (int i = 0; i < tries && i < CODES && made < wanted; i++) {
+                int y = topHangsOn(1) ? rising[i] : Codes.C;
+                if (costs[y] <= left) {
+                    putOnSecond(x, y, left - costs[y], choose(y, low1, low0), choose(y, high1, high0));
+                }
+            }
+        }
+
+        /** Low is what comes where the third part tells 0, high where it tells 1. */
+        private void putOnSecond(int x, int y, int left, int low, int high) {
+            if (left < 0 || left >= level) {
+                return;
+            }
+            int from = topHangsOn(2) ? starts[left] : 0;
+            int to = topHangsOn(2) ? starts[left + 1] : left == 0 ? 1 : 0;
+            int turns = low ^ high;
+            for (int i = from; i < to && i < CODES; i++) {
+                int code = (low ^ turns & byCost[i]) & CODES - 1;
+                if (costs[code] == NONE) {
+                    find(code, x, y, byCost[i]);
+                }
+            }
+        }
+
+        private void find(int code, int x, int y, int z) {
+            costs[code] = level;
+            tops[code] = top;
+            parts[3 * code] = topArity > 0 ? x : NONE;
+            parts[3 * code + 1] = topArity > 1 ? y : NONE;
+            parts[3 * code + 2] = topArity > 2 ? z : NONE;
+            made++;
+        }
+
+        private boolean topHangsOn(int v) {
+            return (topVariables >> v & 1) != 0;
+        }
+
+        private int spread(int point) {
+            return Codes.tells(topCode, point) == 1 ? CODES - 1 : 0;
+        }
+
+        private static int choose(int which, int one, int zero) {
+            return which & one | ~which & zero;
+        }
+
+        int madeCount() {
+            return made;
+        }
+
+        int greatestCost() {
+            return greatest;
+        }
+
+        int leastCodeCosting(int n) {
+            for (int code = 0; code < CODES; code++) {
+                if (costs[code] == n) {
+                    return code;
+                }
+            }
+            return NONE;
+        }
+
+        int countCosting(int n) {
+            int count = 0;
+            for (int code = 0; code < CODES; code++) {
+                if (costs[code] == n) {
+                    count++;
+                }
+            }
+            return count;
+        }
+
+        private boolean isMade(int code) {
+            return isCode(code) && costs[code] != NONE;
+        }
+
+        int costOf(int code) {
+            return isMade(code) ? costs[code] : NONE;
+        }
+
+        int topOf(int code) {
+            return isMade(code) ? tops[code] : NONE;
+        }
+
+        int partOf(int code, int i) {
+            return isMade(code) && i >= 0 && i < 3 ? parts[3 * code + i] : NONE;
+        }
+
+        int lengthOf(int code) {
+            return isMade(code) ? lengths[code] : NONE;
+        }
+
+        private int partLength(int code, int i) {
+            return Math.max(lengthOf(partOf(code, i)), 0);
+        }
+
+        /** Letter k: down into the part that has it, until it is the first one. */
+        int letterOf(int code, int k) {
+            if (k < 0 || k >= lengthOf(code)) {
+                return NONE;
+            }
+            int at = code;
+            int left = k;
+            for (int depth = 0; depth < CODES && left > 0; depth++) {
+                left--;
+                int i = 0;
+                while (i < 2 && left >= partLength(at, i)) {
+                    left -= partLength(at, i);
+                    i++;
+                }
+                at = partOf(at, i);
+            }
+            return firstLetterOf(at);
+        }
+
+        private int firstLetterOf(int code) {
+            switch (code) {
+                case Codes.A: return 'a';
+                case Codes.B: return 'b';
+                case Codes.C: return 'c';
+                default: return isMade(code) ? 'A' + topOf(code) : NONE;
+            }
+        }
+    }
+}
