@@ -337,7 +337,7 @@ public final class YesNoClones {
     }
 
     private int draw(int n) {
-        seedNow = (int) (seedNow * 1103515245L + 12345L & 0x7fffffffL);
+        seedNow = (int) ((seedNow * 1103515245L + 12345L) & 0x7fffffffL);
         return n < 1 ? 0 : seedNow / 65536 % n;
     }
 
@@ -577,7 +577,7 @@ public final class YesNoClones {
             ranks[Traits.ALL] = 0;
             sets[0] = Traits.ALL;
             int found = 1;
-            for (int i = 0; i < found && found < SETS; i++) {
+            for (int i = 0; i < found && i < SETS; i++) {
                 for (int code = 0; code < CODES; code++) {
                     int set = sets[i] & traits[code];
                     if (ranks[set] == NONE && found < SETS) {
@@ -592,7 +592,7 @@ public final class YesNoClones {
         private void numberSets() {
             for (int set = 0; set < SETS; set++) {
                 numbers[set] = NONE;
-                if (ranks[set] != NONE) {
+                if (ranks[set] != NONE && count < SETS) {
                     numbers[set] = count;
                     sets[count] = set;
                     count++;
@@ -1135,19 +1135,21 @@ public final class YesNoClones {
             int tries = topHangsOn(1) ? listed : 1;
             for (int i = 0; i < tries && i < CODES && made < wanted; i++) {
                 int y = topHangsOn(1) ? rising[i] : Codes.C;
-                if (costs[y] <= left) {
-                    putOnSecond(x, y, left - costs[y], choose(y, low1, low0), choose(y, high1, high0));
+                int rest = left - costs[y];
+                if (rest == 0 || rest > 0 && topHangsOn(2)) {
+                    putOnSecond(x, y, rest, choose(y, low1, low0), choose(y, high1, high0));
                 }
             }
         }
 
         /** Low is what comes where the third part tells 0, high where it tells 1. */
-        private void putOnSecond(int x, int y, int left, int low, int high) {
-            if (left < 0 || left >= level) {
+        private void putOnSecond(int x, int y, int rest, int low, int high) {
+            if (rest < 0 || rest >= level) {
                 return;
             }
-            int from = topHangsOn(2) ? starts[left] : 0;
-            int to = topHangsOn(2) ? starts[left + 1] : left == 0 ? 1 : 0;
+            // c stands first of all that is made
+            int from = topHangsOn(2) ? starts[rest] : 0;
+            int to = topHangsOn(2) ? starts[rest + 1] : 1;
             int turns = low ^ high;
             for (int i = from; i < to && i < CODES; i++) {
                 int code = (low ^ turns & byCost[i]) & CODES - 1;
