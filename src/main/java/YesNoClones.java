@@ -3,17 +3,15 @@ public final class YesNoClones {
     public static final int NONE = -1, UNKNOWN = -1000000001, OUTSIDE = -1000000002, NOT = -1000000003, FULL = -1000000004;
 
     private static final int CODES = 256;
-    private static final int IMAGES = 2;
 
     private final Formula formula = new Formula();
     private final Places places = new Places();
-    private final Costs costs = new Costs();
+    private final Ways ways = new Ways();
     private final Book book = new Book();
     private final Shelf shelf = new Shelf();
-    private final History history = new History();
-    private final Slots images = new Slots(IMAGES);
-    private final int[] imageSeeds = new int[IMAGES];
-    private final boolean[] imageKept = new boolean[IMAGES];
+    private final Past past = new Past();
+    private final int[] imageSeeds = new int[Past.IMAGES];
+    private final boolean[] imageKept = new boolean[Past.IMAGES];
     private int seedNow = 0;
     private int faultPlace = NONE;
 
@@ -40,7 +38,7 @@ public final class YesNoClones {
         if (fault != 0) {
             return -10 - fault;
         }
-        history.push(shelf);
+        past.push(shelf);
         return shelf.add(code);
     }
 
@@ -62,7 +60,7 @@ public final class YesNoClones {
             case 9: return places.count();
             case 10: return book.size();
             case 11: return book.firstWrong(reckoned());
-            case 12: return history.size();
+            case 12: return past.size();
             default: return OUTSIDE;
         }
     }
@@ -95,13 +93,14 @@ public final class YesNoClones {
         if (!isCode(code)) {
             return OUTSIDE;
         }
+        Costs costs = reckoned();
         switch (what) {
-            case 0: return reckoned().costOf(code);
-            case 1: return reckoned().topOf(code);
-            case 2: return reckoned().partOf(code, 0);
-            case 3: return reckoned().partOf(code, 1);
-            case 4: return reckoned().partOf(code, 2);
-            case 5: return reckoned().lengthOf(code);
+            case 0: return costs.costOf(code);
+            case 1: return costs.topOf(code);
+            case 2: return ways.partOf(code, 0);
+            case 3: return ways.partOf(code, 1);
+            case 4: return ways.partOf(code, 2);
+            case 5: return ways.lengthOf(code);
             default: return OUTSIDE;
         }
     }
@@ -110,7 +109,8 @@ public final class YesNoClones {
         if (!isCode(code) || k < 0) {
             return OUTSIDE;
         }
-        return reckoned().letterOf(code, k);
+        reckoned();
+        return k < ways.lengthOf(code) ? ways.letterOf(code, k) : NONE;
     }
 
     public int costing(int n) {
@@ -189,7 +189,7 @@ public final class YesNoClones {
         if (shelf.isFull()) {
             return FULL;
         }
-        history.push(shelf);
+        past.push(shelf);
         return shelf.add(Codes.putOn(shelf.codeAt(f), shelf.codeAt(x), shelf.codeAt(y), shelf.codeAt(z)));
     }
 
@@ -197,7 +197,7 @@ public final class YesNoClones {
         if (!shelf.holds(f)) {
             return UNKNOWN;
         }
-        history.push(shelf);
+        past.push(shelf);
         int code = Codes.turnedOver(shelf.codeAt(f));
         shelf.change(f, code);
         return code;
@@ -207,7 +207,7 @@ public final class YesNoClones {
         if (!shelf.holds(f)) {
             return UNKNOWN;
         }
-        history.push(shelf);
+        past.push(shelf);
         shelf.remove(f);
         return shelf.size();
     }
@@ -216,7 +216,7 @@ public final class YesNoClones {
         if (set >> shelf.size() != 0) {
             return UNKNOWN;
         }
-        history.push(shelf);
+        past.push(shelf);
         shelf.choose(set);
         return common();
     }
@@ -226,17 +226,17 @@ public final class YesNoClones {
             return OUTSIDE;
         }
         for (int i = 0; i < n && !shelf.isFull(); i++) {
-            history.push(shelf);
+            past.push(shelf);
             shelf.add(draw(CODES));
         }
         return shelf.size();
     }
 
     public int undo(int n) {
-        if (n < 1 || n > History.ROOM) {
+        if (n < 1 || n > Past.DEEDS) {
             return OUTSIDE;
         }
-        return history.goBackBy(n, shelf) ? shelf.size() : NOT;
+        return past.goBackBy(n, shelf) ? shelf.size() : NOT;
     }
 
     // ---- the book
@@ -266,26 +266,24 @@ public final class YesNoClones {
     }
 
     public int keep(int i) {
-        if (i < 0 || i >= IMAGES) {
+        if (i < 0 || i >= Past.IMAGES) {
             return UNKNOWN;
         }
-        images.save(i, shelf);
+        past.saveImage(i, shelf);
         imageSeeds[i] = seedNow;
         imageKept[i] = true;
-        history.clear();
         return 1;
     }
 
     public int goBack(int i) {
-        if (i < 0 || i >= IMAGES) {
+        if (i < 0 || i >= Past.IMAGES) {
             return UNKNOWN;
         }
         if (!imageKept[i]) {
             return NOT;
         }
-        images.load(i, shelf);
+        past.loadImage(i, shelf);
         seedNow = imageSeeds[i];
-        history.clear();
         return 1;
     }
 
@@ -330,8 +328,10 @@ public final class YesNoClones {
 
     /** The costs of the base as it is now. */
     private Costs reckoned() {
+        Costs costs = ways.costs();
         if (!costs.areOf(shelf)) {
-            costs.reckon(shelf, places.countIn(common()));
+            costs.reckon(shelf, places, common());
+            ways.forget();
         }
         return costs;
     }
@@ -624,10 +624,14 @@ public final class YesNoClones {
             return ranks[setOf(k) & Traits.ALL];
         }
 
+        boolean isIn(int code, int set) {
+            return (traitsOf(code) & set) == set;
+        }
+
         int countIn(int set) {
             int n = 0;
             for (int code = 0; code < CODES; code++) {
-                if ((traits[code] & set) == set) {
+                if (isIn(code, set)) {
                     n++;
                 }
             }
@@ -908,21 +912,50 @@ public final class YesNoClones {
         }
     }
 
-    /** Shelves and bases as they were. */
-    private static final class Slots {
-        private final int[] sizes;
-        private final int[] sets;
-        private final int[] codes;
+    /** Shelves and bases as they were: ahead of the latest deeds, in a ring, and as images behind it. */
+    private static final class Past {
+        static final int DEEDS = 16, IMAGES = 2;
+        private static final int SLOTS = DEEDS + IMAGES;
 
-        Slots(int room) {
-            int slots = Math.max(room, 0);
-            sizes = new int[slots];
-            sets = new int[slots];
-            codes = new int[slots * Shelf.ROOM];
+        private final int[] sizes = new int[SLOTS];
+        private final int[] sets = new int[SLOTS];
+        private final int[] codes = new int[SLOTS * Shelf.ROOM];
+        private int size = 0;
+        private int next = 0;
+
+        /** How many deeds can be gone back by. */
+        int size() {
+            return size;
         }
 
-        void save(int slot, Shelf shelf) {
-            if (slot < 0 || slot >= sizes.length) {
+        void push(Shelf shelf) {
+            save(next, shelf);
+            next = (next + 1) % DEEDS;
+            size = Math.min(size + 1, DEEDS);
+        }
+
+        boolean goBackBy(int n, Shelf shelf) {
+            if (n < 1 || n > size) {
+                return false;
+            }
+            size -= n;
+            next = (next + DEEDS - n) % DEEDS;
+            load(next, shelf);
+            return true;
+        }
+
+        void saveImage(int i, Shelf shelf) {
+            save(DEEDS + i, shelf);
+            size = 0;
+        }
+
+        void loadImage(int i, Shelf shelf) {
+            load(DEEDS + i, shelf);
+            size = 0;
+        }
+
+        private void save(int slot, Shelf shelf) {
+            if (slot < 0 || slot >= SLOTS) {
                 return;
             }
             sizes[slot] = shelf.size();
@@ -932,47 +965,14 @@ public final class YesNoClones {
             }
         }
 
-        void load(int slot, Shelf shelf) {
-            if (slot < 0 || slot >= sizes.length) {
+        private void load(int slot, Shelf shelf) {
+            if (slot < 0 || slot >= SLOTS) {
                 return;
             }
             shelf.restart(sets[slot]);
             for (int f = 0; f < sizes[slot] && f < Shelf.ROOM; f++) {
                 shelf.add(codes[slot * Shelf.ROOM + f]);
             }
-        }
-    }
-
-    /** What was ahead of each of the latest deeds, in a ring. */
-    private static final class History {
-        static final int ROOM = 16;
-
-        private final Slots slots = new Slots(ROOM);
-        private int size = 0;
-        private int next = 0;
-
-        int size() {
-            return size;
-        }
-
-        void clear() {
-            size = 0;
-        }
-
-        void push(Shelf shelf) {
-            slots.save(next, shelf);
-            next = (next + 1) % ROOM;
-            size = Math.min(size + 1, ROOM);
-        }
-
-        boolean goBackBy(int n, Shelf shelf) {
-            if (n < 1 || n > size) {
-                return false;
-            }
-            size -= n;
-            next = (next + ROOM - n) % ROOM;
-            slots.load(next, shelf);
-            return true;
         }
     }
 
@@ -1012,31 +1012,94 @@ public final class YesNoClones {
         }
     }
 
+    /** A function that is put on parts, one after the other. */
+    private static final class Putting {
+        private static final int CASES = 4;
+
+        private int function = 0;
+        private int variables = 0;
+        private int arity = 0;
+        /** What it tells behind the first part, where b and c tell 0 0, 0 1, 1 0, 1 1. */
+        private final int[] cases = new int[CASES];
+        private int low = 0;
+        private int turns = 0;
+
+        void begin(int code) {
+            function = code;
+            variables = Codes.variablesOf(code);
+            arity = Codes.arityOf(code);
+        }
+
+        int arity() {
+            return arity;
+        }
+
+        boolean hangsOn(int v) {
+            return (variables >> v & 1) != 0;
+        }
+
+        void first(int x) {
+            for (int i = 0; i < CASES; i++) {
+                cases[i] = choose(x, spread(CASES + i), spread(i));
+            }
+        }
+
+        /** Whether, behind the first part, each point of this code comes in some case. */
+        boolean mayBecome(int code) {
+            int some = 0;
+            int all = CODES - 1;
+            for (int i = 0; i < CASES; i++) {
+                some |= cases[i];
+                all &= cases[i];
+            }
+            return (code & ~some) == 0 && (all & ~code) == 0;
+        }
+
+        void second(int y) {
+            low = choose(y, cases[2], cases[0]);
+            turns = low ^ choose(y, cases[3], cases[1]);
+        }
+
+        /** Whether, behind the second part, this code is all right where the third has no say. */
+        boolean canBecome(int code) {
+            return ((code ^ low) & ~turns) == 0;
+        }
+
+        int third(int z) {
+            return (low ^ turns & z) & CODES - 1;
+        }
+
+        private int spread(int point) {
+            return Codes.tells(function, point) == 1 ? CODES - 1 : 0;
+        }
+
+        private static int choose(int which, int one, int zero) {
+            return which & one | ~which & zero;
+        }
+    }
+
     /** What the base makes, each code as cheaply as can be: all codes of one cost, then those of the next. */
     private static final class Costs {
         private static final int MOST = 9999;
 
         private final int[] costs = new int[CODES];
         private final int[] tops = new int[CODES];
-        private final int[] parts = new int[3 * CODES];
-        private final int[] lengths = new int[CODES];
-        /** The codes that are made, rising. */
-        private final int[] rising = new int[CODES];
         /** The codes that are made, by cost; those of one cost rising. Those that cost n stand from starts[n] on. */
         private final int[] byCost = new int[CODES];
         private final int[] starts = new int[MOST + 2];
+        /** The codes that are still to be made. */
+        private final int[] missing = new int[CODES];
+        /** Those of them that the first part leaves possible. */
+        private final int[] aims = new int[CODES];
         private final int[] baseCodes = new int[Shelf.ROOM];
+        private final Putting putting = new Putting();
         private int baseSet = NONE;
-        private int made = 0;
         private int listed = 0;
-        private int wanted = 0;
+        private int missingCount = 0;
+        private int aimCount = 0;
         private int level = 0;
         private int greatest = 0;
-        /** The function of the base that is being put on what is made. */
         private int top = NONE;
-        private int topCode = 0;
-        private int topArity = 0;
-        private int topVariables = 0;
 
         /** Whether what was reckoned last holds for this shelf. */
         boolean areOf(Shelf shelf) {
@@ -1053,17 +1116,19 @@ public final class YesNoClones {
 
         /**
          * A base makes just the functions of the place of its common traits (src/test/java/MadeTest.java goes through
-         * all bases), so the search may end when it has as many as are wanted.
+         * all bases), so the search may end when none of these is missing.
          */
-        void reckon(Shelf shelf, int inPlace) {
-            wanted = inPlace;
+        void reckon(Shelf shelf, Places places, int common) {
             start(shelf);
+            miss(places, common);
+            settle();
             // a code that costs more than all before it has three parts at most, and they cost the greatest at most
-            for (int n = 1; n <= MOST && n <= 3 * greatest + 1 && made < wanted; n++) {
+            for (int n = 1; n <= MOST && n <= 3 * greatest + 1 && missingCount > 0; n++) {
                 level = n;
                 for (int f = 0; f < Shelf.ROOM; f++) {
                     if (shelf.isChosen(f)) {
-                        putTop(f, shelf.codeAt(f));
+                        tryTop(f, shelf.codeAt(f));
+                        dropMade();
                     }
                 }
                 settle();
@@ -1077,111 +1142,141 @@ public final class YesNoClones {
             }
             for (int code = 0; code < CODES; code++) {
                 costs[code] = NONE;
+                tops[code] = NONE;
             }
-            made = 0;
+            costs[Codes.A] = 0;
+            costs[Codes.B] = 0;
+            costs[Codes.C] = 0;
             listed = 0;
             level = 0;
             greatest = 0;
-            top = NONE;
-            topArity = 0;
-            find(Codes.A, NONE, NONE, NONE);
-            find(Codes.B, NONE, NONE, NONE);
-            find(Codes.C, NONE, NONE, NONE);
-            settle();
+        }
+
+        private void miss(Places places, int common) {
+            missingCount = 0;
+            for (int code = 0; code < CODES; code++) {
+                if (costs[code] == NONE && places.isIn(code, common)) {
+                    missing[missingCount] = code;
+                    missingCount++;
+                }
+            }
+        }
+
+        private void dropMade() {
+            int left = 0;
+            for (int i = 0; i < missingCount && i < CODES; i++) {
+                if (!isMade(missing[i])) {
+                    missing[left] = missing[i];
+                    left++;
+                }
+            }
+            missingCount = left;
         }
 
         /** From now on what costs as much as this level may be a part. */
         private void settle() {
             starts[level] = listed;
-            int rise = 0;
             for (int code = 0; code < CODES; code++) {
                 if (costs[code] == level && listed < CODES) {
                     byCost[listed] = code;
                     listed++;
-                    lengths[code] = 1 + partLength(code, 0) + partLength(code, 1) + partLength(code, 2);
                     greatest = level;
-                }
-                if (costs[code] != NONE) {
-                    rising[rise] = code;
-                    rise++;
                 }
             }
             starts[level + 1] = listed;
         }
 
         // A part that has no say costs nothing at the least, and of what costs nothing c has the least code: where the
-        // function does not hang on a variable, c alone is tried. Tops and parts are tried rising, so that of several
-        // ways the one that is due comes first.
+        // function does not hang on a variable, c alone is tried. Tops are tried rising, so that the least comes first.
 
-        private void putTop(int f, int code) {
+        private void tryTop(int f, int code) {
             top = f;
-            topCode = code;
-            topArity = Codes.arityOf(code);
-            topVariables = Codes.variablesOf(code);
-            int tries = topHangsOn(0) ? listed : 1;
-            for (int i = 0; i < tries && i < CODES && made < wanted; i++) {
-                int x = topHangsOn(0) ? rising[i] : Codes.C;
-                if (costs[x] < level) {
-                    putOnFirst(x, level - 1 - costs[x]);
+            putting.begin(code);
+            boolean hangs = putting.hangsOn(0);
+            for (int n = 0; n < level && (n == 0 || hangs); n++) {
+                int to = partsTo(n, hangs);
+                for (int i = partsFrom(n, hangs); i < to && i < CODES; i++) {
+                    putting.first(byCost[i]);
+                    aim();
+                    if (aimCount > 0) {
+                        trySeconds(level - 1 - n);
+                    }
                 }
             }
         }
 
-        private void putOnFirst(int x, int left) {
-            int low0 = choose(x, spread(4), spread(0));
-            int high0 = choose(x, spread(5), spread(1));
-            int low1 = choose(x, spread(6), spread(2));
-            int high1 = choose(x, spread(7), spread(3));
-            int tries = topHangsOn(1) ? listed : 1;
-            for (int i = 0; i < tries && i < CODES && made < wanted; i++) {
-                int y = topHangsOn(1) ? rising[i] : Codes.C;
-                int rest = left - costs[y];
-                if (rest == 0 || rest > 0 && topHangsOn(2)) {
-                    putOnSecond(x, y, rest, choose(y, low1, low0), choose(y, high1, high0));
+        private void aim() {
+            aimCount = 0;
+            for (int i = 0; i < missingCount && i < CODES; i++) {
+                if (!isMade(missing[i]) && putting.mayBecome(missing[i])) {
+                    aims[aimCount] = missing[i];
+                    aimCount++;
                 }
             }
         }
 
-        /** Low is what comes where the third part tells 0, high where it tells 1. */
-        private void putOnSecond(int x, int y, int rest, int low, int high) {
-            if (rest < 0 || rest >= level) {
+        private void trySeconds(int left) {
+            boolean hangs = putting.hangsOn(1);
+            for (int n = 0; n <= left && (n == 0 || hangs); n++) {
+                int from = partsFrom(left - n, putting.hangsOn(2));
+                int to = partsTo(left - n, putting.hangsOn(2));
+                int end = from < to ? partsTo(n, hangs) : 0;
+                for (int i = partsFrom(n, hangs); i < end && i < CODES; i++) {
+                    putting.second(byCost[i]);
+                    tryThirds(from, to);
+                }
+            }
+        }
+
+        /** Goes through what is less: the codes that are aimed at, or the third parts. */
+        private void tryThirds(int from, int to) {
+            if (aimCount < to - from) {
+                for (int i = 0; i < aimCount && i < CODES; i++) {
+                    if (putting.canBecome(aims[i]) && !isMade(aims[i]) && someThird(aims[i], from, to)) {
+                        make(aims[i]);
+                    }
+                }
                 return;
             }
-            // c stands first of all that is made
-            int from = topHangsOn(2) ? starts[rest] : 0;
-            int to = topHangsOn(2) ? starts[rest + 1] : 1;
-            int turns = low ^ high;
             for (int i = from; i < to && i < CODES; i++) {
-                int code = (low ^ turns & byCost[i]) & CODES - 1;
-                if (costs[code] == NONE) {
-                    find(code, x, y, byCost[i]);
-                }
+                make(putting.third(byCost[i]));
             }
         }
 
-        private void find(int code, int x, int y, int z) {
-            costs[code] = level;
-            tops[code] = top;
-            parts[3 * code] = topArity > 0 ? x : NONE;
-            parts[3 * code + 1] = topArity > 1 ? y : NONE;
-            parts[3 * code + 2] = topArity > 2 ? z : NONE;
-            made++;
+        private boolean someThird(int code, int from, int to) {
+            for (int i = from; i < to && i < CODES; i++) {
+                if (putting.third(byCost[i]) == code) {
+                    return true;
+                }
+            }
+            return false;
         }
 
-        private boolean topHangsOn(int v) {
-            return (topVariables >> v & 1) != 0;
+        private void make(int code) {
+            if (isCode(code) && costs[code] == NONE) {
+                costs[code] = level;
+                tops[code] = top;
+            }
         }
 
-        private int spread(int point) {
-            return Codes.tells(topCode, point) == 1 ? CODES - 1 : 0;
+        /** Parts that cost n stand by cost from here on; c, where the function does not hang on them, is the first. */
+        int partsFrom(int n, boolean hangs) {
+            return hangs && n >= 0 && n <= level ? starts[n] : 0;
         }
 
-        private static int choose(int which, int one, int zero) {
-            return which & one | ~which & zero;
+        int partsTo(int n, boolean hangs) {
+            if (n < 0 || n > level) {
+                return 0;
+            }
+            return hangs ? starts[n + 1] : n == 0 ? 1 : 0;
+        }
+
+        int madeAt(int i) {
+            return i >= 0 && i < listed && i < CODES ? byCost[i] : NONE;
         }
 
         int madeCount() {
-            return made;
+            return listed;
         }
 
         int greatestCost() {
@@ -1189,22 +1284,11 @@ public final class YesNoClones {
         }
 
         int leastCodeCosting(int n) {
-            for (int code = 0; code < CODES; code++) {
-                if (costs[code] == n) {
-                    return code;
-                }
-            }
-            return NONE;
+            return madeAt(partsFrom(n, true));
         }
 
         int countCosting(int n) {
-            int count = 0;
-            for (int code = 0; code < CODES; code++) {
-                if (costs[code] == n) {
-                    count++;
-                }
-            }
-            return count;
+            return partsTo(n, true) - partsFrom(n, true);
         }
 
         private boolean isMade(int code) {
@@ -1212,40 +1296,166 @@ public final class YesNoClones {
         }
 
         int costOf(int code) {
-            return isMade(code) ? costs[code] : NONE;
+            return isCode(code) ? costs[code] : NONE;
         }
 
         int topOf(int code) {
-            return isMade(code) ? tops[code] : NONE;
+            return isCode(code) ? tops[code] : NONE;
+        }
+
+        /** The code of the function by which this one is made. */
+        int topCodeOf(int code) {
+            int f = topOf(code);
+            return f >= 0 && f < Shelf.ROOM ? baseCodes[f] : 0;
+        }
+    }
+
+    /** The parts of what is made, and how it is spelled; looked for when they are asked for. */
+    private static final class Ways {
+        private static final int PARTS = 3;
+
+        private final Costs costs = new Costs();
+        private final Putting putting = new Putting();
+        private final int[] parts = new int[PARTS * CODES];
+        private final boolean[] known = new boolean[CODES];
+        private final boolean[] needed = new boolean[CODES];
+        /** 0: not yet known. */
+        private final int[] lengths = new int[CODES];
+
+        Costs costs() {
+            return costs;
+        }
+
+        void forget() {
+            for (int code = 0; code < CODES; code++) {
+                known[code] = false;
+                lengths[code] = 0;
+            }
         }
 
         int partOf(int code, int i) {
-            return isMade(code) && i >= 0 && i < 3 ? parts[3 * code + i] : NONE;
+            lookFor(code);
+            return knownPart(code, i);
         }
 
+        private int knownPart(int code, int i) {
+            return isCode(code) && known[code] && i >= 0 && i < PARTS ? parts[PARTS * code + i] : NONE;
+        }
+
+        // Parts are tried rising, so that of several ways the one that is due comes first.
+
+        private void lookFor(int code) {
+            int left = costs.costOf(code) - 1;
+            if (left < 0 || known[code]) {
+                return;
+            }
+            putting.begin(costs.topCodeOf(code));
+            boolean found = false;
+            for (int x = 0; x < CODES && !found; x++) {
+                if (isPart(x, 0, left)) {
+                    putting.first(x);
+                    found = putting.mayBecome(code) && lookForSecond(code, x, left - costs.costOf(x));
+                }
+            }
+        }
+
+        private boolean lookForSecond(int code, int x, int left) {
+            for (int y = 0; y < CODES; y++) {
+                if (isPart(y, 1, left)) {
+                    putting.second(y);
+                    int z = putting.canBecome(code) ? third(code, left - costs.costOf(y)) : NONE;
+                    if (z != NONE) {
+                        know(code, x, y, z);
+                        return true;
+                    }
+                }
+            }
+            return false;
+        }
+
+        private int third(int code, int cost) {
+            int to = costs.partsTo(cost, putting.hangsOn(2));
+            for (int i = costs.partsFrom(cost, putting.hangsOn(2)); i < to && i < CODES; i++) {
+                if (putting.third(costs.madeAt(i)) == code) {
+                    return costs.madeAt(i);
+                }
+            }
+            return NONE;
+        }
+
+        private boolean isPart(int code, int v, int most) {
+            if (!putting.hangsOn(v)) {
+                return code == Codes.C;
+            }
+            int cost = costs.costOf(code);
+            return cost != NONE && cost <= most;
+        }
+
+        private void know(int code, int x, int y, int z) {
+            if (!isCode(code)) {
+                return;
+            }
+            known[code] = true;
+            parts[PARTS * code] = putting.arity() > 0 ? x : NONE;
+            parts[PARTS * code + 1] = putting.arity() > 1 ? y : NONE;
+            parts[PARTS * code + 2] = putting.arity() > 2 ? z : NONE;
+        }
+
+        /** Parts cost less than what is made of them: dear codes first to see what is needed, cheap ones first to measure. */
         int lengthOf(int code) {
-            return isMade(code) ? lengths[code] : NONE;
+            int cost = costs.costOf(code);
+            if (cost == NONE || lengths[code] > 0) {
+                return cost == NONE ? NONE : lengths[code];
+            }
+            for (int other = 0; other < CODES; other++) {
+                needed[other] = other == code;
+            }
+            int end = costs.partsTo(cost, true);
+            for (int i = end - 1; i >= 0; i--) {
+                needParts(costs.madeAt(i));
+            }
+            for (int i = 0; i < end; i++) {
+                measure(costs.madeAt(i));
+            }
+            return lengths[code];
+        }
+
+        private void needParts(int code) {
+            if (!isCode(code) || !needed[code]) {
+                return;
+            }
+            lookFor(code);
+            for (int i = 0; i < PARTS; i++) {
+                int part = knownPart(code, i);
+                if (isCode(part)) {
+                    needed[part] = true;
+                }
+            }
+        }
+
+        private void measure(int code) {
+            if (isCode(code) && needed[code]) {
+                lengths[code] = 1 + partLength(code, 0) + partLength(code, 1) + partLength(code, 2);
+            }
         }
 
         private int partLength(int code, int i) {
-            return Math.max(lengthOf(partOf(code, i)), 0);
+            int part = knownPart(code, i);
+            return isCode(part) ? lengths[part] : 0;
         }
 
-        /** Letter k: down into the part that has it, until it is the first one. */
+        /** Letter k of a code whose length is known: down into the part that has it, until it is the first one. */
         int letterOf(int code, int k) {
-            if (k < 0 || k >= lengthOf(code)) {
-                return NONE;
-            }
             int at = code;
             int left = k;
             for (int depth = 0; depth < CODES && left > 0; depth++) {
                 left--;
                 int i = 0;
-                while (i < 2 && left >= partLength(at, i)) {
+                while (i < PARTS - 1 && left >= partLength(at, i)) {
                     left -= partLength(at, i);
                     i++;
                 }
-                at = partOf(at, i);
+                at = knownPart(at, i);
             }
             return firstLetterOf(at);
         }
@@ -1255,7 +1465,7 @@ public final class YesNoClones {
                 case Codes.A: return 'a';
                 case Codes.B: return 'b';
                 case Codes.C: return 'c';
-                default: return isMade(code) ? 'A' + topOf(code) : NONE;
+                default: return costs.topOf(code) == NONE ? NONE : 'A' + costs.topOf(code);
             }
         }
     }
