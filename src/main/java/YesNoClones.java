@@ -759,20 +759,23 @@ public final class YesNoClones {
         /** The number of the first fault from the left, 0 if there is none. */
         int firstFault(int functions) {
             int open = 1;
-            for (reached = 0; reached < size && reached < ROOM; reached++) {
-                int letter = text[reached];
-                if (open == 0) {
-                    return BEHIND;
+            for (int i = 0; i < size && i < ROOM; i++) {
+                int fault = open == 0 ? BEHIND : faultOf(text[i], functions);
+                if (fault != 0) {
+                    reached = i;
+                    return fault;
                 }
-                if (bound(letter) == NONE) {
-                    return STRANGE;
-                }
-                if (isFunction(letter) && letter - 'A' >= functions) {
-                    return MISSING;
-                }
-                open += bound(letter) - 1;
+                open += bound(text[i]) - 1;
             }
+            reached = size;
             return open > 0 ? SHORT : 0;
+        }
+
+        private static int faultOf(int letter, int functions) {
+            if (bound(letter) == NONE) {
+                return STRANGE;
+            }
+            return isFunction(letter) && letter - 'A' >= functions ? MISSING : 0;
         }
 
         /** The code of a text without a fault: from the right, so that what a letter binds is there ahead of it. */
