@@ -578,10 +578,11 @@ public final class YesNoClones {
             sets[0] = Traits.ALL;
             int found = 1;
             for (int i = 0; i < found && i < SETS; i++) {
+                int from = sets[i] & Traits.ALL;
                 for (int code = 0; code < CODES; code++) {
-                    int set = sets[i] & traits[code];
+                    int set = from & traits[code];
                     if (ranks[set] == NONE && found < SETS) {
-                        ranks[set] = ranks[sets[i]] + 1;
+                        ranks[set] = ranks[from] + 1;
                         sets[found] = set;
                         found++;
                     }
@@ -605,7 +606,7 @@ public final class YesNoClones {
         }
 
         boolean holds(int k) {
-            return k >= 0 && k < count;
+            return k >= 0 && k < count && k < SETS;
         }
 
         int traitsOf(int code) {
@@ -641,7 +642,7 @@ public final class YesNoClones {
         /** The traits that all functions with these have: what the places that have these share. */
         int closureOf(int set) {
             int shared = Traits.ALL;
-            for (int k = 0; k < count; k++) {
+            for (int k = 0; k < count && k < SETS; k++) {
                 if ((sets[k] & set) == set) {
                     shared &= sets[k];
                 }
@@ -651,7 +652,7 @@ public final class YesNoClones {
 
         int countNext(int k, boolean up) {
             int n = 0;
-            for (int l = 0; l < count; l++) {
+            for (int l = 0; l < count && l < SETS; l++) {
                 if (isNext(k, l, up)) {
                     n++;
                 }
@@ -662,7 +663,7 @@ public final class YesNoClones {
         /** The i-th place just above (or just below) place k. */
         int next(int k, int i, boolean up) {
             int passed = 0;
-            for (int l = 0; l < count; l++) {
+            for (int l = 0; l < count && l < SETS; l++) {
                 if (isNext(k, l, up)) {
                     if (passed == i) {
                         return l;
@@ -681,7 +682,7 @@ public final class YesNoClones {
             if (!isAbove(high, low)) {
                 return false;
             }
-            for (int k = 0; k < count; k++) {
+            for (int k = 0; k < count && k < SETS; k++) {
                 if (isAbove(high, k) && isAbove(k, low)) {
                     return false;
                 }
@@ -743,7 +744,7 @@ public final class YesNoClones {
         }
 
         boolean type(int letter) {
-            if (size >= ROOM) {
+            if (size < 0 || size >= ROOM) {
                 return false;
             }
             text[size] = letter;
@@ -794,7 +795,7 @@ public final class YesNoClones {
         }
 
         private void push(int code) {
-            if (depth < ROOM) {
+            if (depth >= 0 && depth < ROOM) {
                 stack[depth] = code;
                 depth++;
             }
@@ -879,7 +880,7 @@ public final class YesNoClones {
         }
 
         int add(int code) {
-            if (isFull()) {
+            if (size < 0 || size >= ROOM) {
                 return NONE;
             }
             codes[size] = code;
@@ -996,7 +997,7 @@ public final class YesNoClones {
         }
 
         boolean add(int code, int value) {
-            if (size >= ROOM) {
+            if (size < 0 || size >= ROOM) {
                 return false;
             }
             codes[size] = code;
@@ -1178,6 +1179,9 @@ public final class YesNoClones {
 
         /** From now on what costs as much as this level may be a part. */
         private void settle() {
+            if (level < 0 || level > MOST) {
+                return;
+            }
             starts[level] = listed;
             for (int code = 0; code < CODES; code++) {
                 if (costs[code] == level && listed < CODES) {
@@ -1198,7 +1202,7 @@ public final class YesNoClones {
             boolean hangs = putting.hangsOn(0);
             for (int n = 0; n < level && (n == 0 || hangs); n++) {
                 int to = partsTo(n, hangs);
-                for (int i = partsFrom(n, hangs); i < to && i < CODES; i++) {
+                for (int i = Math.max(partsFrom(n, hangs), 0); i < to && i < CODES; i++) {
                     putting.first(byCost[i]);
                     aim();
                     if (aimCount > 0) {
@@ -1224,7 +1228,7 @@ public final class YesNoClones {
                 int from = partsFrom(left - n, putting.hangsOn(2));
                 int to = partsTo(left - n, putting.hangsOn(2));
                 int end = from < to ? partsTo(n, hangs) : 0;
-                for (int i = partsFrom(n, hangs); i < end && i < CODES; i++) {
+                for (int i = Math.max(partsFrom(n, hangs), 0); i < end && i < CODES; i++) {
                     putting.second(byCost[i]);
                     tryThirds(from, to);
                 }
@@ -1241,13 +1245,13 @@ public final class YesNoClones {
                 }
                 return;
             }
-            for (int i = from; i < to && i < CODES; i++) {
+            for (int i = Math.max(from, 0); i < to && i < CODES; i++) {
                 make(putting.third(byCost[i]));
             }
         }
 
         private boolean someThird(int code, int from, int to) {
-            for (int i = from; i < to && i < CODES; i++) {
+            for (int i = Math.max(from, 0); i < to && i < CODES; i++) {
                 if (putting.third(byCost[i]) == code) {
                     return true;
                 }
@@ -1264,11 +1268,11 @@ public final class YesNoClones {
 
         /** Parts that cost n stand by cost from here on; c, where the function does not hang on them, is the first. */
         int partsFrom(int n, boolean hangs) {
-            return hangs && n >= 0 && n <= level ? starts[n] : 0;
+            return hangs && n >= 0 && n <= level && n <= MOST ? starts[n] : 0;
         }
 
         int partsTo(int n, boolean hangs) {
-            if (n < 0 || n > level) {
+            if (n < 0 || n > level || n > MOST) {
                 return 0;
             }
             return hangs ? starts[n + 1] : n == 0 ? 1 : 0;
